@@ -25,7 +25,7 @@ final class RandomRunsTest {
         spread = new int[] {1, 2, 5, 99}[seed % 4];
     }
 
-    static void test() throws RuntimeException {
+    static void test() {
         List<Method> methods = new ArrayList<>();
         for (Method method : SeriesArchive.class.getDeclaredMethods()) {
             if (java.lang.reflect.Modifier.isPublic(method.getModifiers())) {
