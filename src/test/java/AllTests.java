@@ -11,6 +11,8 @@ final class AllTests {
         PatternsTest.test();
         WholeSeriesTest.test();
         ProgramsTest.test();
+        SentencesTest.test();
+        GrammarTest.test();
         RandomRunsTest.test();
         Check.finish(61);
     }
