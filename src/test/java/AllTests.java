@@ -13,6 +13,7 @@ final class AllTests {
         ProgramsTest.test();
         SentencesTest.test();
         GrammarTest.test();
+        ReadmeTest.test();
         RandomRunsTest.test();
         Check.finish(61);
     }

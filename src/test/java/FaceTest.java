@@ -1,11 +1,20 @@
+import java.io.IOException;
+import java.io.UncheckedIOException;
 import java.lang.reflect.Constructor;
 import java.lang.reflect.Field;
 import java.lang.reflect.Method;
 import java.lang.reflect.Modifier;
+import java.nio.file.Files;
+import java.nio.file.Path;
+import java.nio.file.Paths;
+import java.util.ArrayList;
+import java.util.List;
 import java.util.TreeSet;
 
 /** The public face: each method with its types and exceptions, and nothing else that others can reach. */
 final class FaceTest {
+    private static final Path DOCUMENT = Paths.get("../shared/DOC.md");
+    private static final Path SOURCE = Paths.get("src/main/java/SeriesArchive.java");
     private static final String[] METHODS = {
         "int append(int,int) Index Argument State", "int setValue(int,int,int) Index Argument",
         "int removeFirst(int,int) Index Argument", "int copy(int,int) Index", "int reverse(int) Index",
@@ -54,6 +63,7 @@ final class FaceTest {
             Check.same(method + " has a public name", isPrivate && names.contains(method.getName()), false);
         }
         constructorAndFields();
+        sourceAgreesWithDocument();
     }
 
     private static void constructorAndFields() {
@@ -77,13 +87,45 @@ final class FaceTest {
         }
         text.append(')');
         for (Class<?> type : method.getExceptionTypes()) {
-            text.append(' ').append(shortName(type.getSimpleName()));
+            text.append(' ').append(Script.Raised.shortened(type.getSimpleName()));
         }
         return text.toString();
     }
 
-    private static String shortName(String name) {
-        return name.replace("OutOfBounds", "").replace("Illegal", "").replace("NoSuch", "No")
-                .replace("Exception", "");
+    /** The face is written in the class as in the document, with the names of its parameters. */
+    private static void sourceAgreesWithDocument() {
+        String source = String.join(" ", lines(SOURCE)).replaceAll("\\s+", " ");
+        List<String> documented = documentedMethods();
+        Check.same("the number of methods", documented.size(), METHODS.length);
+        for (String method : documented) {
+            Check.same("the source has " + method, source.contains("public " + method + " {"), true);
+        }
+        // each promise says its method once more, as the face does
+        for (String line : lines(DOCUMENT)) {
+            if (line.startsWith("`") && line.contains("`: ")) {
+                String method = line.substring(1, line.indexOf("`: "));
+                boolean isConstructor = method.equals("SeriesArchive()");
+                Check.same("the face has " + method, isConstructor || documented.contains(method), true);
+            }
+        }
+    }
+
+    /** Each method of the document's face, without "public" and the semicolon. */
+    static List<String> documentedMethods() {
+        List<String> methods = new ArrayList<>();
+        for (String line : lines(DOCUMENT)) {
+            if (line.startsWith("    public ") && !line.equals("    public SeriesArchive();")) {
+                methods.add(line.substring("    public ".length(), line.length() - 1));
+            }
+        }
+        return methods;
+    }
+
+    private static List<String> lines(Path file) {
+        try {
+            return Files.readAllLines(file);
+        } catch (IOException e) {
+            throw new UncheckedIOException(e);
+        }
     }
 }

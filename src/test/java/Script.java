@@ -22,8 +22,12 @@ final class Script {
     /** An exception, by the short name that the scripts use. */
     record Raised(String name) {
         static Raised of(Throwable exception) {
-            return new Raised(exception.getClass().getSimpleName().replace("OutOfBoundsException", "")
-                    .replace("Illegal", "").replace("NoSuch", "No").replace("Exception", ""));
+            return new Raised(shortened(exception.getClass().getSimpleName()));
+        }
+
+        static String shortened(String name) {
+            return name.replace("OutOfBounds", "").replace("Illegal", "").replace("NoSuch", "No")
+                    .replace("Exception", "");
         }
     }
 
